@@ -687,15 +687,15 @@ public final class HostelBeds {
         boolean absent;
         int state;
 
-        void fill(int first, int stay, int females, int males, int youngest, int percent) {
+        void fill(int from, int nights, int women, int men, int age, int chance) {
             name = 0L;
-            from = first;
-            nights = stay;
-            women = females;
-            men = males;
-            persons = females + males;
-            age = youngest;
-            chance = percent;
+            this.from = from;
+            this.nights = nights;
+            this.women = women;
+            this.men = men;
+            persons = women + men;
+            this.age = age;
+            this.chance = chance;
             together = false;
             absent = false;
         }

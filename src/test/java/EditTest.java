@@ -133,6 +133,7 @@ public final class EditTest {
         Check.due("states", states(hostel), "1 0 1 0");
         Check.due("setOver(50)", hostel.setOver(50), 1);
         Check.due("states", states(hostel), "1 1 1 0");
+        Check.due("placed(1)", hostel.placed(1), 3);
         Check.due("setting(0)", hostel.setting(0), 50);
         Check.fails("setOver(51)", ARGUMENT, () -> hostel.setOver(51));
         Check.fails("setOver(-1)", ARGUMENT, () -> hostel.setOver(-1));

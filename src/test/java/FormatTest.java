@@ -23,6 +23,7 @@ public final class FormatTest {
         empty.load();
         formats(empty, 0, "");
         longest();
+        few();
         Check.finish();
     }
 
@@ -37,9 +38,30 @@ public final class FormatTest {
         HostelBeds hostel = Check.loaded(text.toString());
         formats(hostel, 7, "roomnama 0/10, roomnamb 0/10, roomnamc 0/10, roomnamd 0/10, roomname 0/10, roomnamf 0/10, "
                 + "roomnamg 0/10, roomnamh 0/10 +120");
+        hostel.book(6, 1, 4, 0, 0, 0);
+        hostel.cancel(0);
+        hostel.cancel(1);
+        hostel.book(7, 1, 4, 0, 0, 0);
+        formats(hostel, 7, "roomnama 0/10, roomnamb 0/10, roomnamc 0/10, roomnamd 0/10, roomname 0/10, roomnamf 0/10, "
+                + "roomnamg 0/10, roomnamh 0/10 +100");
+        hostel.undo();
+        hostel.undo();
+        hostel.undo();
         hostel.setAbsent(0, true);
         formats(hostel, 7, "roomnama 0/10, roomnamb 0/10, roomnamc 0/10, roomnamd 0/10, roomname 0/10, roomnamf 0/10, "
                 + "roomnamg 0/10, roomnamh 0/10 +108");
+    }
+
+    private static void few() {
+        HostelBeds hostel = Check.loaded("room x men 1 0 1;room y men 10 0 1;book a 0 1 1 0 0 0;book b 0 2 0 1 0 0;");
+        formats(hostel, 0, "x 1/1, y 0/10 +1");
+        formats(hostel, 1, "x 1/1, y 0/10");
+        hostel.cancel(1);
+        formats(hostel, 0, "x 0/1, y 0/10 +1");
+        hostel.undo();
+        formats(hostel, 0, "x 1/1, y 0/10 +1");
+        hostel.book(0, 1, 9, 0, 0, 0);
+        formats(hostel, 0, "x 1/1, y 0/10 +10");
     }
 
     private static void formats(HostelBeds hostel, int night, String due) {

@@ -9,6 +9,7 @@ public final class InputTest {
         append();
         truncate();
         load();
+        nothingShinesThrough();
         failedLoad();
         legalTexts();
         wrongTokens();
@@ -101,6 +102,30 @@ public final class InputTest {
         Check.due("book behind load", told.book(2, 1, 1, 0, 0, 0), 5);
     }
 
+    private static void nothingShinesThrough() {
+        HostelBeds hostel = new HostelBeds();
+        for (int i = 0; i < 2; i++) {
+            Check.put(hostel, "room a mixed 2 0 5;walk 7;over 20;offer 3 4;book x 0 1 2 0 0 0 together;absent x;"
+                    + "book y 0 1 1 0 0 0;");
+            hostel.load();
+        }
+        for (int i = 0; i < 2; i++) {
+            Check.put(hostel, "room b mixed 2 0 5;");
+            hostel.load();
+            Check.due("beds", hostel.count(1), 2);
+            Check.due("booked", hostel.booked(0), 0);
+            Check.due("settings", hostel.setting(0) + " " + hostel.setting(1) + " " + hostel.setting(2) + " "
+                    + hostel.setting(3), "0 60 7 10");
+            Check.fails("waiting(0)", INDEX, () -> hostel.waiting(0));
+            Check.due("book", hostel.book(0, 1, 2, 0, 0, 0), 0);
+            Check.due("booking(0, 6)", hostel.booking(0, 6) + " " + hostel.booking(0, 7), "0 0");
+            Check.due("state(0)", hostel.state(0), 1);
+            Check.put(hostel, "x");
+            Check.fails("find(false)", java.util.NoSuchElementException.class, () -> hostel.find(false));
+            hostel.truncate(0);
+        }
+    }
+
     private static void failedLoad() {
         HostelBeds hostel = Check.loaded("room a mixed 2 0 5;book x 0 1 2 0 0 0;walk 9;over 8;");
         hostel.setWalk(5);
@@ -141,6 +166,9 @@ public final class InputTest {
         wrong("room a mixed 1 0 1;cancel", 25);
         wrong("rooma mixed 1 0 1;", 0);
         wrong("roo a mixed 1 0 1;", 0);
+        wrong("boom a mixed 1 0 1;", 0);
+        wrong("rook a 0 1 1 0 0 0;", 0);
+        wrong("room a mixer 1 0 1;", 7);
         wrong("room5", 4);
         wrong("roomA", 4);
         wrong("Room a", 0);

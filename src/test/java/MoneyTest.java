@@ -80,6 +80,8 @@ public final class MoneyTest {
         Check.due("expectedWalks(1)", hostel.expectedWalks(1), 2 * six);
         Check.due("risk(2)", hostel.risk(2), 0.0);
         Check.due("expectedWalks(2)", hostel.expectedWalks(2), 0.0);
+        Check.due("expectedWalks(0) alone", hostel.expectedWalks(0), 0.3125);
+        Check.due("chance(1, 0) alone", hostel.chance(1, 0), 0.5 * (1.0 - c) * (1.0 - d));
         hostel.setAbsent(0, true);
         Check.due("risk(0) with an absent one", hostel.risk(0), 0.25);
         hostel.cancel(0);

@@ -137,6 +137,7 @@ public final class ToldTest {
         for (int place = 0; place < hostel.count(3); place++) {
             list.append(place == 0 ? "" : " ").append(hostel.waiting(place));
         }
+        Check.fails("waiting() behind the list", INDEX, () -> hostel.waiting(hostel.count(3)));
         return list.toString();
     }
 
