@@ -2,9 +2,17 @@ import java.util.Objects;
 
 /** What the tests share: texts into an object, and answers that are compared. */
 final class Check {
+    private static final int MOST_SHOWN = 40;
+
     private static int wrong = 0;
+    private static String sentence = "";
 
     private Check() {
+    }
+
+    /** Tells which sentence of the document the answers that follow are asked for. */
+    static void sentence(String told) {
+        sentence = told;
     }
 
     /** Puts a text behind what stands in the buffer. */
@@ -32,10 +40,34 @@ final class Check {
         return hostel;
     }
 
+    /** The text must match; returns the object that read it. */
+    static HostelBeds legal(String text) {
+        HostelBeds hostel = new HostelBeds();
+        put(hostel, text);
+        try {
+            hostel.load();
+        } catch (IllegalArgumentException e) {
+            due("load() of " + text, "throws", "no exception");
+        }
+        due("errorOffset() of " + text, hostel.errorOffset(), -1);
+        return hostel;
+    }
+
+    /** The text must be wrong at the offset. */
+    static void wrong(String text, int offset) {
+        HostelBeds hostel = new HostelBeds();
+        put(hostel, text);
+        fails("load() of " + text, IllegalArgumentException.class, hostel::load);
+        due("errorOffset() of " + text, hostel.errorOffset(), offset);
+    }
+
     static void due(String call, Object got, Object due) {
         if (!Objects.equals(got, due)) {
             wrong++;
-            System.out.println(call + " answered " + got + ", due is " + due);
+            if (wrong <= MOST_SHOWN) {
+                System.out.println(call + " answered " + got + ", due is " + due
+                        + (sentence.isEmpty() ? "" : " - \"" + sentence + "\""));
+            }
         }
     }
 

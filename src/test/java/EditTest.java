@@ -165,30 +165,36 @@ public final class EditTest {
     }
 
     private static void undoOfEach() {
-        HostelBeds hostel = Check.loaded("room a mixed 2 0 5;room b women 2 0 7;walk 9;over 25;book x 0 3 3 0 0 50;"
-                + "book y 2 2 1 1 0 70;book z 1 2 2 0 0 30;book w 1 1 0 2 0 20 together;absent y;");
-        String[] before = new String[9];
-        before[0] = all(hostel);
-        hostel.book(5, 2, 1, 1, 9, 9);
-        before[1] = all(hostel);
-        hostel.cancel(0);
-        before[2] = all(hostel);
-        hostel.setAbsent(1, false);
-        before[3] = all(hostel);
-        hostel.setTogether(3, false);
-        before[4] = all(hostel);
-        hostel.setOver(50);
-        before[5] = all(hostel);
-        hostel.setWalk(100);
-        before[6] = all(hostel);
-        hostel.setPrice(1, 3);
-        before[7] = all(hostel);
-        hostel.setPrice(1, 3);
+        for (int edits = 0; edits <= 8; edits++) {
+            String before = Look.atHostel(edited(edits));
+            HostelBeds hostel = edited(8);
+            for (int left = 7; left >= edits; left--) {
+                Check.due("undo()", hostel.undo(), left);
+            }
+            Check.due("all behind undo() up to edit " + edits, Look.atHostel(hostel), before);
+        }
+        HostelBeds hostel = edited(8);
         for (int left = 7; left >= 0; left--) {
-            Check.due("undo()", hostel.undo(), left);
-            Check.due("all behind undo()", all(hostel), before[left]);
+            hostel.undo();
         }
         Check.fails("undo()", STATE, hostel::undo);
+    }
+
+    private static HostelBeds edited(int edits) {
+        HostelBeds hostel = Check.loaded("room a mixed 2 0 5;room b women 2 0 7;walk 9;over 25;book x 0 3 3 0 0 50;"
+                + "book y 2 2 1 1 0 70;book z 1 2 2 0 0 30;book w 1 1 0 2 0 20 together;absent y;");
+        for (int edit = 0; edit < edits; edit++) {
+            switch (edit) {
+                case 0 -> hostel.book(5, 2, 1, 1, 9, 9);
+                case 1 -> hostel.cancel(0);
+                case 2 -> hostel.setAbsent(1, false);
+                case 3 -> hostel.setTogether(3, false);
+                case 4 -> hostel.setOver(50);
+                case 5 -> hostel.setWalk(100);
+                default -> hostel.setPrice(1, 3);
+            }
+        }
+        return hostel;
     }
 
     private static void undoOfTen() {
@@ -246,28 +252,5 @@ public final class EditTest {
             states.append(booking == 0 ? "" : " ").append(hostel.state(booking));
         }
         return states.toString();
-    }
-
-    private static String all(HostelBeds hostel) {
-        StringBuilder all = new StringBuilder(states(hostel));
-        for (int which = 0; which < 4; which++) {
-            all.append(" s").append(hostel.setting(which));
-        }
-        for (int place = 0; place < hostel.count(3); place++) {
-            all.append(" w").append(hostel.waiting(place));
-        }
-        for (int room = 0; room < hostel.count(0); room++) {
-            all.append(" r").append(hostel.room(room, 3));
-        }
-        for (int booking = 0; booking < hostel.count(2); booking++) {
-            for (int what = 0; what < 8; what++) {
-                all.append(what == 0 ? " b" : ",").append(hostel.booking(booking, what));
-            }
-            all.append(" p").append(hostel.placed(booking)).append(',').append(hostel.roomsOf(booking));
-        }
-        for (int night = 0; night < 30; night++) {
-            all.append(" n").append(hostel.booked(night)).append(',').append(hostel.risk(night));
-        }
-        return all.append(" net").append(hostel.net()).toString();
     }
 }

@@ -147,97 +147,97 @@ public final class InputTest {
     }
 
     private static void legalTexts() {
-        legal(" \n  ");
-        legal("room a mixed 1 0 1;");
-        legal("\n room\na\nmixed 1 0 1 ; ");
-        legal("room abcdefgh mixed 10 99 200;");
-        legal("room a mixed001 000 001;over5;walk6;");
-        legal("room room men 1 0 1;book room 0 1 1 0 0 0;room book women 1 0 1;book book 0 1 1 0 0 0;");
-        legal("over 50;over 0;walk 300;walk 0;offer 2 0;offer 30 50;");
-        legal("book a 29 1 1 0 0 0;book b 0 30 12 0 99 100;book c 0 1 0 12 0 0;book d 0 1 6 6 0 0 together;");
-        legal("book together 0 1 1 0 0 0together;cancel together;");
-        legal("book a 0 1 1 0 0 0;absent a;absent a;cancel a;book b 0 1 1 0 0 0;absent b;");
+        Check.legal(" \n  ");
+        Check.legal("room a mixed 1 0 1;");
+        Check.legal("\n room\na\nmixed 1 0 1 ; ");
+        Check.legal("room abcdefgh mixed 10 99 200;");
+        Check.legal("room a mixed001 000 001;over5;walk6;");
+        Check.legal("room room men 1 0 1;book room 0 1 1 0 0 0;room book women 1 0 1;book book 0 1 1 0 0 0;");
+        Check.legal("over 50;over 0;walk 300;walk 0;offer 2 0;offer 30 50;");
+        Check.legal("book a 29 1 1 0 0 0;book b 0 30 12 0 99 100;book c 0 1 0 12 0 0;book d 0 1 6 6 0 0 together;");
+        Check.legal("book together 0 1 1 0 0 0together;cancel together;");
+        Check.legal("book a 0 1 1 0 0 0;absent a;absent a;cancel a;book b 0 1 1 0 0 0;absent b;");
     }
 
     private static void wrongTokens() {
-        wrong("room", 4);
-        wrong("room ", 5);
-        wrong("room a mixed 1 0 1", 18);
-        wrong("room a mixed 1 0 1;cancel", 25);
-        wrong("rooma mixed 1 0 1;", 0);
-        wrong("roo a mixed 1 0 1;", 0);
-        wrong("boom a mixed 1 0 1;", 0);
-        wrong("rook a 0 1 1 0 0 0;", 0);
-        wrong("room a mixer 1 0 1;", 7);
-        wrong("room5", 4);
-        wrong("roomA", 4);
-        wrong("Room a", 0);
-        wrong("\troom", 0);
-        wrong("over 5\r;", 6);
-        wrong("room \u00e9", 5);
-        wrong("room a boys 1 0 1;", 7);
-        wrong("room a mixed a", 13);
-        wrong("room a mixed -1 0 1;", 13);
-        wrong("room a mixed 1 0 1 1;", 19);
-        wrong(";", 0);
-        wrong("5;", 0);
-        wrong("over 1;;", 7);
-        wrong("over 5 5;", 7);
-        wrong("over;", 4);
-        wrong("over five;", 5);
-        wrong("over 5;@", 7);
-        wrong("over 51;@", 5);
-        wrong("over 5;room a what 99 @", 14);
-        wrong("offer 5;", 7);
-        wrong("walk 5 together;", 7);
-        wrong("book a 0 1 1 0 0 0 togethe;", 19);
-        wrong("book a 0 1 1 0 0 0 together together;", 28);
-        wrong("book a 0 1 1 0 0;", 16);
-        wrong("absent", 6);
+        Check.wrong("room", 4);
+        Check.wrong("room ", 5);
+        Check.wrong("room a mixed 1 0 1", 18);
+        Check.wrong("room a mixed 1 0 1;cancel", 25);
+        Check.wrong("rooma mixed 1 0 1;", 0);
+        Check.wrong("roo a mixed 1 0 1;", 0);
+        Check.wrong("boom a mixed 1 0 1;", 0);
+        Check.wrong("rook a 0 1 1 0 0 0;", 0);
+        Check.wrong("room a mixer 1 0 1;", 7);
+        Check.wrong("room5", 4);
+        Check.wrong("roomA", 4);
+        Check.wrong("Room a", 0);
+        Check.wrong("\troom", 0);
+        Check.wrong("over 5\r;", 6);
+        Check.wrong("room \u00e9", 5);
+        Check.wrong("room a boys 1 0 1;", 7);
+        Check.wrong("room a mixed a", 13);
+        Check.wrong("room a mixed -1 0 1;", 13);
+        Check.wrong("room a mixed 1 0 1 1;", 19);
+        Check.wrong(";", 0);
+        Check.wrong("5;", 0);
+        Check.wrong("over 1;;", 7);
+        Check.wrong("over 5 5;", 7);
+        Check.wrong("over;", 4);
+        Check.wrong("over five;", 5);
+        Check.wrong("over 5;@", 7);
+        Check.wrong("over 51;@", 5);
+        Check.wrong("over 5;room a what 99 @", 14);
+        Check.wrong("offer 5;", 7);
+        Check.wrong("walk 5 together;", 7);
+        Check.wrong("book a 0 1 1 0 0 0 togethe;", 19);
+        Check.wrong("book a 0 1 1 0 0 0 together together;", 28);
+        Check.wrong("book a 0 1 1 0 0;", 16);
+        Check.wrong("absent", 6);
     }
 
     private static void wrongNumbers() {
-        wrong("room a mixed 0 0 1;", 13);
-        wrong("room a mixed 11 0 1;", 13);
-        wrong("room a mixed 0001 0 1;", 13);
-        wrong("room a mixed 1 100 1;", 15);
-        wrong("room a mixed 1 0 0;", 17);
-        wrong("room a mixed 1 0 201;", 17);
-        wrong("over 51;", 5);
-        wrong("walk 301;", 5);
-        wrong("walk 0060;", 5);
-        wrong("walk 4294967297;", 5);
-        wrong("offer 1 10;", 6);
-        wrong("offer 31 0;", 6);
-        wrong("offer 2 51;", 8);
-        wrong("book a 30 1 1 0 0 0;", 7);
-        wrong("book a 0 0 1 0 0 0;", 9);
-        wrong("book a 0 31 1 0 0 0;", 9);
-        wrong("book a 29 2 1 0 0 0;", 10);
-        wrong("book a 0 1 13 0 0 0;", 11);
-        wrong("book a 0 1 0 0 0 0;", 13);
-        wrong("book a 0 1 0 13 0 0;", 13);
-        wrong("book a 0 1 12 1 0 0;", 14);
-        wrong("book a 0 1 6 7 0 0;", 13);
-        wrong("book a 0 1 1 0 100 0;", 15);
-        wrong("book a 0 1 1 0 0 101;", 17);
+        Check.wrong("room a mixed 0 0 1;", 13);
+        Check.wrong("room a mixed 11 0 1;", 13);
+        Check.wrong("room a mixed 0001 0 1;", 13);
+        Check.wrong("room a mixed 1 100 1;", 15);
+        Check.wrong("room a mixed 1 0 0;", 17);
+        Check.wrong("room a mixed 1 0 201;", 17);
+        Check.wrong("over 51;", 5);
+        Check.wrong("walk 301;", 5);
+        Check.wrong("walk 0060;", 5);
+        Check.wrong("walk 4294967297;", 5);
+        Check.wrong("offer 1 10;", 6);
+        Check.wrong("offer 31 0;", 6);
+        Check.wrong("offer 2 51;", 8);
+        Check.wrong("book a 30 1 1 0 0 0;", 7);
+        Check.wrong("book a 0 0 1 0 0 0;", 9);
+        Check.wrong("book a 0 31 1 0 0 0;", 9);
+        Check.wrong("book a 29 2 1 0 0 0;", 10);
+        Check.wrong("book a 0 1 13 0 0 0;", 11);
+        Check.wrong("book a 0 1 0 0 0 0;", 13);
+        Check.wrong("book a 0 1 0 13 0 0;", 13);
+        Check.wrong("book a 0 1 12 1 0 0;", 14);
+        Check.wrong("book a 0 1 6 7 0 0;", 13);
+        Check.wrong("book a 0 1 1 0 100 0;", 15);
+        Check.wrong("book a 0 1 1 0 0 101;", 17);
     }
 
     private static void wrongNames() {
         String room = "room a women 1 0 1;";
         String book = "book a 0 1 1 0 0 0;";
-        wrong("room abcdefghi mixed 1 0 1;", 5);
-        wrong("book abcdefghi 0 1 1 0 0 0;", 5);
-        wrong(room + "room a men 1 0 1;", 24);
-        wrong(book + "book a 1 1 1 0 0 0;", 24);
-        wrong(book + "cancel a;book a 0 1 1 0 0 0;", 33);
-        wrong("cancel a;", 7);
-        wrong("absent a;", 7);
-        wrong(room + "cancel a;", 26);
-        wrong(book + "cancel a;cancel a;", 35);
-        wrong(book + "cancel a;absent a;", 35);
-        wrong(book + "cancel b;", 26);
-        wrong(book + "absent 5;", 26);
+        Check.wrong("room abcdefghi mixed 1 0 1;", 5);
+        Check.wrong("book abcdefghi 0 1 1 0 0 0;", 5);
+        Check.wrong(room + "room a men 1 0 1;", 24);
+        Check.wrong(book + "book a 1 1 1 0 0 0;", 24);
+        Check.wrong(book + "cancel a;book a 0 1 1 0 0 0;", 33);
+        Check.wrong("cancel a;", 7);
+        Check.wrong("absent a;", 7);
+        Check.wrong(room + "cancel a;", 26);
+        Check.wrong(book + "cancel a;cancel a;", 35);
+        Check.wrong(book + "cancel a;absent a;", 35);
+        Check.wrong(book + "cancel b;", 26);
+        Check.wrong(book + "absent 5;", 26);
     }
 
     private static void tooMany() {
@@ -245,32 +245,14 @@ public final class InputTest {
         for (char name = 'a'; name < 'i'; name++) {
             rooms.append("room ").append(name).append(" men 1 0 1;");
         }
-        legal(rooms.toString());
-        wrong(rooms + " room", rooms.length() + 1);
+        Check.legal(rooms.toString());
+        Check.wrong(rooms + " room", rooms.length() + 1);
         StringBuilder books = new StringBuilder();
         for (char name = 'a'; name < 'q'; name++) {
             books.append("book ").append(name).append(" 0 1 1 0 0 0;");
         }
-        legal(books.toString());
-        wrong(books + "cancel a;book z", books.length() + 9);
-    }
-
-    private static void legal(String text) {
-        HostelBeds hostel = new HostelBeds();
-        Check.put(hostel, text);
-        try {
-            hostel.load();
-        } catch (IllegalArgumentException e) {
-            Check.due("load() of " + text, "throws", "no exception");
-        }
-        Check.due("errorOffset() of " + text, hostel.errorOffset(), -1);
-    }
-
-    private static void wrong(String text, int offset) {
-        HostelBeds hostel = new HostelBeds();
-        Check.put(hostel, text);
-        Check.fails("load() of " + text, ARGUMENT, hostel::load);
-        Check.due("errorOffset() of " + text, hostel.errorOffset(), offset);
+        Check.legal(books.toString());
+        Check.wrong(books + "cancel a;book z", books.length() + 9);
     }
 
     private static void wrong(HostelBeds hostel, int offset) {

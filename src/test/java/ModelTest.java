@@ -7,10 +7,12 @@ import java.util.function.Supplier;
  * Two arguments tell the first run and the one behind the last.
  */
 public final class ModelTest {
-    private static final int RUNS = 80;
-    private static final int CALLS = 200;
+    private static final int RUNS = 120;
+    // an object is promised for 512 calls; the dearest step, a formatted text that is read, makes 135
+    private static final int LAST_STEP_BEFORE = 512 - 135;
 
     private long seed;
+    private int calls;
     private HostelBeds hostel;
     private Model model;
 
@@ -27,10 +29,10 @@ public final class ModelTest {
         seed = 0x9E3779B97F4A7C15L * (number + 1);
         hostel = new HostelBeds();
         model = new Model();
-        for (int call = 0; call < CALLS; call++) {
-            String where = "run " + number + ", call " + call + ": ";
-            if (call % 40 == 0) {
-                text(where, call == 0 ? 0 : below(4));
+        for (int step = 0; calls < LAST_STEP_BEFORE; step++) {
+            String where = "run " + number + ", step " + step + ": ";
+            if (step % 60 == 0) {
+                text(where, step == 0 ? 0 : below(4));
             } else {
                 call(where, below(50));
             }
@@ -171,8 +173,10 @@ public final class ModelTest {
             case 22 -> same(on, () -> hostel.splits(), () -> model.splits());
             case 23 -> same(on, () -> hostel.extendable(booking), () -> model.extendable(booking));
             case 24 -> same(on, () -> hostel.pays(booking), () -> model.pays(booking));
-            case 25 -> same(on, () -> hostel.walkCost() + ";" + hostel.net(),
-                    () -> new Model.Night(model.now).walkCost() + ";" + new Model.Night(model.now).net());
+            case 25 -> {
+                same(on, () -> hostel.walkCost(), () -> new Model.Night(model.now).walkCost());
+                same(on, () -> hostel.net(), () -> new Model.Night(model.now).net());
+            }
             case 26 -> same(on, () -> hostel.chance(night, n), () -> model.chance(night, n));
             case 27 -> same(on, () -> hostel.risk(night), () -> model.risk(night));
             case 28 -> same(on, () -> hostel.expectedWalks(night), () -> model.expectedWalks(night));
@@ -255,7 +259,8 @@ public final class ModelTest {
         return "done";
     }
 
-    private static void same(String call, Supplier<Object> got, Supplier<Object> due) {
+    private void same(String call, Supplier<Object> got, Supplier<Object> due) {
+        calls++;
         Check.due(call, answer(got), answer(due));
     }
 
