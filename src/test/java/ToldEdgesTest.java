@@ -36,6 +36,7 @@ public final class ToldEdgesTest {
         wholeBuffer();
         bufferStays();
         noneFound();
+        emptyBufferIsNoName();
         waitingPlaces();
         Check.finish();
     }
@@ -509,6 +510,32 @@ public final class ToldEdgesTest {
         Check.put(told, "b");
         Check.fails("find(true) of a booking", NO_SUCH, () -> told.find(true));
         Check.due("find(false) of a booking", told.find(false), 0);
+    }
+
+    private static void emptyBufferIsNoName() {
+        Check.sentence("NAME is any word - 1 to 8 letters; book() adds a booking without a NAME");
+        HostelBeds hostel = Check.loaded("room a men 1 0 1;book b 0 1 1 0 0 0;cancel b;");
+        for (int booking = 1; booking <= 3; booking++) {
+            hostel.book(0, 1, 0, 1, 0, 0);
+            Check.fails("find(true) of an empty buffer", NO_SUCH, () -> hostel.find(true));
+            Check.fails("find(false) of an empty buffer", NO_SUCH, () -> hostel.find(false));
+        }
+        hostel.undo();
+        Check.fails("find(false) behind undo()", NO_SUCH, () -> hostel.find(false));
+        // a buffer of zeros is not empty, but no NAME either
+        for (int length = 1; length <= 9; length++) {
+            hostel.truncate(0);
+            Check.put(hostel, "\0".repeat(length));
+            Check.fails("find(true) of zeros", NO_SUCH, () -> hostel.find(true));
+            Check.fails("find(false) of zeros", NO_SUCH, () -> hostel.find(false));
+        }
+        hostel.truncate(0);
+        Check.due("the NAME of a cancelled one", find(hostel, "b"), 0);
+    }
+
+    private static int find(HostelBeds hostel, String name) {
+        Check.put(hostel, name);
+        return found(hostel, false);
     }
 
     private static void waitingPlaces() {
